@@ -32,8 +32,11 @@ final class Model {
     private int latest = 0;
     private List<int[]> ways = new ArrayList<>();
     private int fault = NONE;
+    /** Leaves out rows that go a new way and come back by it, which take much time where ways are many. */
+    private final boolean isSparing;
 
-    Model() {
+    Model(boolean isSparing) {
+        this.isSparing = isSparing;
         for (int i = 0; i < 5; i++) {
             texts[i] = new StringBuilder();
         }
@@ -228,7 +231,9 @@ final class Model {
                 soonest[t.state.place] = t.minutes;
             }
             for (int way = 0; way < ways.size(); way++) {
-                if (kind(t.state, way) != 0 && (cut >> way & 1) == 0) {
+                int kind = kind(t.state, way);
+                boolean isLeftOut = isSparing && kind == 2 && (from.gone >> way & 1) == 0;
+                if (kind != 0 && !isLeftOut && (cut >> way & 1) == 0) {
                     next.add(new Timed(t.minutes + ways.get(way)[2], after(t.state, way)));
                 }
             }
