@@ -530,7 +530,6 @@ public final class NewOrBack {
         }
 
         void begin(int where) {
-            home = where;
             place = where;
             size = 0;
             gone = 0;
