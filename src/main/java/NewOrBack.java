@@ -538,6 +538,7 @@ public final class NewOrBack {
             judged = NONE;
         }
 
+        /** Stands as another does: the same steps may be. */
         void become(Walk like) {
             System.arraycopy(like.open, 0, open, 0, WAYS);
             System.arraycopy(like.behind, 0, behind, 0, WAYS);
@@ -545,9 +546,6 @@ public final class NewOrBack {
             place = like.place;
             size = like.size;
             gone = like.gone;
-            spent = like.spent;
-            been = like.been;
-            judged = like.judged;
         }
 
         void follow(int[] text, int length) {

@@ -163,6 +163,17 @@ public final class ComingEdgesTest {
         due("never(1)", it.never(1), 6);
     }
 
+    private static void neverOfFormerWalks() {
+        edge("NEVER: where one was, not where one had been by a text that is gone");
+        NewOrBack it = Bench.made("011;121", "abba");
+        due("never(0)", it.never(0), 6);
+        it.home(0, 7);
+        due("never(0) from another HOME", it.never(0), 0);
+        it.home(0, 0);
+        it.wipe(0);
+        due("never(0) without WAYS", it.never(0), 0);
+    }
+
     private static void neverBad() {
         edge("16 never: BAD");
         for (int walker : Bench.NO_WALKERS) {
@@ -458,6 +469,7 @@ public final class ComingEdgesTest {
         neverWhereOneWas();
         neverHome();
         neverOnlyStepsJudgedWell();
+        neverOfFormerWalks();
         neverBad();
         keepsBehindTheStep();
         keepsSets();

@@ -343,6 +343,27 @@ public final class HuntEdgesTest {
         safeIs("011;121", "ab", 1, 0);
         // the new way leads to the wolf, back it is free
         safeIs("011;021", "a", 2, 1);
+        // a is new, and the only one
+        safeIs("021;011;121", "bc", 1, 1);
+    }
+
+    private static void walkerByManySteps() {
+        edge("WOLF: steps by which one comes to be safe, as many as need be");
+        // the wolf is at HOME; one leads it round 1, 4, 3, 6 and comes home by the seventh step
+        NewOrBack it = Bench.made("431;141;051;631;011;611", "c");
+        it.home(0, 5);
+        due("safe(0, 5)", it.safe(0, 5), 1);
+    }
+
+    private static void wolfOfEachPlaceAndWay() {
+        edge("WOLF: a wolf in a PLACE, by a WAY: of PLACE 0 and WAY a, too");
+        safeIs("131;011;121", "bc", 3, 0);
+        NewOrBack it = Bench.made("101;021;301", "ab");
+        it.home(0, 1);
+        due("place(0)", it.place(0), 2);
+        due("safe(0, 3)", it.safe(0, 3), 0);
+        due("safe(0, 1)", it.safe(0, 1), 0);
+        due("safe(0, 4)", it.safe(0, 4), 1);
     }
 
     private static void safeFull() {
@@ -401,6 +422,8 @@ public final class HuntEdgesTest {
         wolfCountsWaysNotMinutes();
         wolfsFirstLetter();
         walkerByAnyStep();
+        walkerByManySteps();
+        wolfOfEachPlaceAndWay();
         safeFull();
         safeBad();
         checks.end();

@@ -470,6 +470,14 @@ public final class SheetEdgesTest {
         it = Bench.made("011", "a");
         due("errands(0, 21, NONE)", it.errands(0, 21, NONE), NONE);
         digestIs("of one way", it);
+        it = Bench.made("121;141;101", "", "aa", "abb", "bbcc");
+        for (int walker = 0; walker < 4; walker++) {
+            it.home(walker, 1);
+        }
+        due("errands(0, 21, NONE)", it.errands(0, 21, NONE), 6);
+        due("never(1)", it.never(1), 4);
+        due("never(3)", it.never(3), 17);
+        digestIs("of a star", it);
     }
 
     private static void digestOfAFault() {
