@@ -13,6 +13,7 @@ public final class NewOrBack {
     private static final int TEXTS = 5, WOOD_BYTES = 60, WALK_BYTES = 24;
     private static final int NO_STEP = 0, NEW = 1, BACK = 2;
     private static final int NULL = 1, INDEX = 2, CAST = 3, STORE = 4, SIZE = 5;
+    private static final int LEAST_INT = 1 << 31;
 
     private final int[][] texts = new int[TEXTS][WOOD_BYTES];
     private final int[] lengths = new int[TEXTS];
@@ -290,12 +291,12 @@ public final class NewOrBack {
 
     public int get(int s, int form, int i) {
         if (!sheets.has(s) || !sheets.isForm(form)) {
-            return Integer.MIN_VALUE;
+            return LEAST_INT;
         }
         int finding = sheets.findingOf(s, form, i);
         if (finding != 0) {
             sheets.find(finding);
-            return Integer.MIN_VALUE;
+            return LEAST_INT;
         }
         return sheets.items[s][i];
     }
@@ -475,7 +476,7 @@ public final class NewOrBack {
 
         /** The other end of a way; NONE, if there is no such way at the place. */
         int other(int way, int place) {
-            if (!within(way, count)) {
+            if (way < 0 || way >= count) {
                 return NONE;
             }
             if (from[way] == place) {
@@ -822,9 +823,9 @@ public final class NewOrBack {
             int reached = from;
             for (int pass = 0; pass < frees && (ends[ways] & ~reached) != 0; pass++) {
                 for (int i = 0; i < frees; i++) {
-                    int both = ends[1 << i];
-                    if (has(ways, i) && (both & reached) != 0) {
-                        reached |= both;
+                    int one = 1 << i;
+                    if ((ways & one) != 0 && (ends[one] & reached) != 0) {
+                        reached |= ends[one];
                     }
                 }
             }

@@ -17,7 +17,8 @@ public final class LanguageTest {
         "put 4", "get 3", "copy 5", "write 2", "count 1", "digest 0"};
     private static final String[] NOT_ALLOWED = {"throw", "throws", "try", "catch", "finally", "synchronized", "assert",
         "static {", "->", "::", "@", "package", "var", "System.out", "Exact(", "equals(", "hashCode(", "toString(",
-        "Random", "Thread.", "Class", "Object", "nanoTime", "currentTimeMillis", "\"", "instanceof"};
+        "Random", "Thread.", "Class", "Object", "nanoTime", "currentTimeMillis", "\"", "instanceof",
+        "MIN_VALUE", "MAX_VALUE"};
 
     private static void face() {
         Class<?> it = NewOrBack.class;
